@@ -67,10 +67,11 @@ public final class KeptColours {
     public KeptColours() {
         now = new Net();
         finder = new Finder();
-        filling = new Filling(finder);
+        Outward outward = new Outward();
+        filling = new Filling(finder, outward);
         forms = new Forms();
-        proof = new Proof();
-        walker = new Walker(finder);
+        proof = new Proof(finder, outward);
+        walker = new Walker(outward);
         history = new History();
         latestTries = 0;
     }
@@ -166,10 +167,11 @@ public final class KeptColours {
     public int triangles() {
         int sum = 0;
         for (int join = 0; join < now.joinCount(); join++) {
-            if (now.tones[join] != BARE) {
-                int third = now.near(now.tones[join], LOW[join]) & now.near(now.tones[join], HIGH[join]);
-                // Each triangle is met once only, at the JOIN of its two least POINTS.
-                sum += Integer.bitCount(third & above(HIGH[join]));
+            int tone = now.tones[join];
+            for (int third = HIGH[join] + 1; third < now.points && tone != BARE; third++) {
+                if (now.tones[numberOf(LOW[join], third)] == tone && now.tones[numberOf(HIGH[join], third)] == tone) {
+                    sum++;
+                }
             }
         }
         return sum;
@@ -320,7 +322,8 @@ public final class KeptColours {
     }
 
     public int prove() {
-        return proof.make(filling, now);
+        filling.begin(now);
+        return filling.isOver() ? NO : proof.make(filling);
     }
 
     public int row(int i, int what) {
@@ -346,7 +349,11 @@ public final class KeptColours {
     }
 
     public int check() {
-        return proof.size == 0 ? NO : proof.firstFault(filling, now);
+        if (proof.size == 0) {
+            return NO;
+        }
+        filling.begin(now);
+        return proof.firstFault(filling);
     }
 
     // ---- walks
@@ -413,8 +420,7 @@ public final class KeptColours {
     }
 
     private static int numberOf(int i, int j) {
-        int high = Math.max(i, j);
-        return high * (high - 1) / 2 + Math.min(i, j);
+        return i < j ? j * (j - 1) / 2 + i : i * (i - 1) / 2 + j;
     }
 
     /** The POINTS, as bits, that are greater than one. */
@@ -446,7 +452,7 @@ public final class KeptColours {
         final int[] kinds = new int[MOST_COLOURS];
         final int[] sizes = new int[MOST_COLOURS];
         final int[] tones = new int[MOST_JOINS];
-        /** By COLOUR and POINT: the POINTS, as bits, that it is joined with in that COLOUR. */
+        /** What `tones` says once more, by COLOUR and POINT: the POINTS, as bits, that it is joined with in it. */
         private final int[] nears = new int[MOST_COLOURS * MOST_POINTS];
 
         Net() {
@@ -477,6 +483,14 @@ public final class KeptColours {
             return points * (points - 1) / 2;
         }
 
+        int pointBits() {
+            return (1 << points) - 1;
+        }
+
+        int copyLength(int colour) {
+            return sizes[colour] + POINTS_BEYOND[kinds[colour]];
+        }
+
         boolean hasPoint(int point) {
             return point >= 0 && point < points;
         }
@@ -493,8 +507,9 @@ public final class KeptColours {
             return colour == BARE || hasColour(colour);
         }
 
-        int near(int colour, int point) {
-            return nears[colour * MOST_POINTS + point];
+        /** For each POINT the POINTS, as bits, that it is joined with in that COLOUR. */
+        void copyNears(int colour, int[] into) {
+            System.arraycopy(nears, colour * MOST_POINTS, into, 0, MOST_POINTS);
         }
 
         void give(int join, int colour) {
@@ -549,57 +564,38 @@ public final class KeptColours {
 
     /** Goes through the COPIES of a COLOUR's TARGET, POINT by POINT, so that they come in their order. */
     private static final class Finder {
-        /** The first COPY, as far as it is put together. */
+        /** A COPY, as far as it is put together; whole behind findFirst, if there is one. */
         final int[] row = new int[LONGEST_COPY];
         int length;
-        private Net net;
-        private int colour;
         private int kind;
-        private int within;
+        private int points;
+        private final int[] near = new int[MOST_POINTS];
 
-        boolean hasAny(Net in) {
-            for (int c = 0; c < in.colours; c++) {
-                if (findFirst(in, c)) {
+        boolean hasAny(Net net) {
+            for (int colour = 0; colour < net.colours; colour++) {
+                if (findFirst(net, colour)) {
                     return true;
                 }
             }
             return false;
         }
 
-        int clashes(Net in) {
+        int clashes(Net net) {
             int sum = 0;
-            for (int c = 0; c < in.colours; c++) {
-                sum += howMany(in, c);
+            for (int colour = 0; colour < net.colours; colour++) {
+                sum += howMany(net, colour);
             }
             return sum;
         }
 
-        boolean findFirst(Net in, int ofColour) {
-            lookAt(in, ofColour, (1 << in.points) - 1);
-            return kind != NOTHING && findFrom(0, within, 0);
+        boolean findFirst(Net net, int colour) {
+            lookAt(net, colour);
+            return kind != NOTHING && findFrom(0, net.pointBits(), 0);
         }
 
-        int howMany(Net in, int ofColour) {
-            return howManyWithin(in, ofColour, (1 << in.points) - 1);
-        }
-
-        private int howManyWithin(Net in, int ofColour, int points) {
-            lookAt(in, ofColour, points);
-            return kind == NOTHING ? 0 : countFrom(0, within, 0);
-        }
-
-        /** Whether there is a COPY of just these POINTS in which that JOIN, which has a COLOUR, is. */
-        boolean isCopyWith(Net in, int join, int points) {
-            int tone = in.tones[join];
-            lookAt(in, tone, points);
-            if (points >= 1 << in.points || Integer.bitCount(points) != length) {
-                return false;
-            }
-            int with = howManyWithin(in, tone, points);
-            in.give(join, BARE);
-            int without = howManyWithin(in, tone, points);
-            in.give(join, tone);
-            return with > without;
+        int howMany(Net net, int colour) {
+            lookAt(net, colour);
+            return kind == NOTHING ? 0 : countFrom(0, net.pointBits(), 0);
         }
 
         int rowBits() {
@@ -610,12 +606,11 @@ public final class KeptColours {
             return bits;
         }
 
-        private void lookAt(Net in, int ofColour, int points) {
-            net = in;
-            colour = ofColour;
-            kind = in.kinds[ofColour];
-            length = in.sizes[ofColour] + POINTS_BEYOND[kind];
-            within = points;
+        private void lookAt(Net net, int colour) {
+            kind = net.kinds[colour];
+            length = net.copyLength(colour);
+            points = net.points;
+            net.copyNears(colour, near);
         }
 
         private int countFrom(int depth, int candidates, int used) {
@@ -623,7 +618,7 @@ public final class KeptColours {
                 return choose(Integer.bitCount(candidates), length - depth);
             }
             int sum = 0;
-            for (int point = 0; point < net.points; point++) {
+            for (int point = 0; point < points; point++) {
                 if ((candidates >> point & 1) == 1) {
                     row[depth] = point;
                     int taken = used | 1 << point;
@@ -637,7 +632,7 @@ public final class KeptColours {
             if (isRestFree(depth)) {
                 return takeLeast(depth, candidates);
             }
-            for (int point = 0; point < net.points; point++) {
+            for (int point = 0; point < points; point++) {
                 if ((candidates >> point & 1) == 1) {
                     row[depth] = point;
                     int taken = used | 1 << point;
@@ -656,7 +651,7 @@ public final class KeptColours {
 
         private boolean takeLeast(int depth, int candidates) {
             int next = depth;
-            for (int point = 0; point < net.points && next < length; point++) {
+            for (int point = 0; point < points && next < length; point++) {
                 if ((candidates >> point & 1) == 1) {
                     row[next] = point;
                     next++;
@@ -667,38 +662,166 @@ public final class KeptColours {
 
         private int candidatesAfter(int depth, int candidates, int taken) {
             int last = row[depth];
-            int near = net.near(colour, last) & within;
             boolean lastComes = depth + 1 == length - 1;
             switch (kind) {
                 case ALL:
-                    return candidates & near & above(last);
+                    return candidates & near[last] & above(last);
                 case RING:
-                    int onRing = near & above(row[0]) & ~taken;
-                    return lastComes ? onRing & net.near(colour, row[0]) & above(row[1]) : onRing;
+                    int onRing = near[last] & above(row[0]) & ~taken;
+                    return lastComes ? onRing & near[row[0]] & above(row[1]) : onRing;
                 case STAR:
-                    return near;
+                    return near[last];
                 case BOOK:
-                    return depth == 0 ? near & above(last) : near & net.near(colour, row[0]);
+                    return depth == 0 ? near[last] & above(last) : near[last] & near[row[0]];
                 case PATH:
-                    return lastComes ? near & ~taken & above(row[0]) : near & ~taken;
+                    return lastComes ? near[last] & ~taken & above(row[0]) : near[last] & ~taken;
                 default:
                     return 0;
             }
         }
     }
 
+    /**
+     * Counts the COPIES in which one JOIN is, outward from it: where a net was CLEAR ahead of a TRY, or
+     * one JOIN gets another COLOUR, these are all that matter, and far fewer to go through than all.
+     */
+    private static final class Outward {
+        private int points;
+        private final int[] near = new int[MOST_POINTS];
+
+        int howMany(Net net, int join) {
+            if (net.tones[join] == BARE) {
+                return 0;
+            }
+            lookAt(net, join);
+            return countFrom(net, join);
+        }
+
+        /** Whether there is a COPY of just these POINTS, as bits, in which that JOIN is. */
+        boolean isCopyOfJust(Net net, int join, int bits) {
+            int tone = net.tones[join];
+            int both = 1 << LOW[join] | 1 << HIGH[join];
+            if (tone == BARE || (bits & both) != both || Integer.bitCount(bits) != net.copyLength(tone)) {
+                return false;
+            }
+            lookAt(net, join);
+            for (int point = 0; point < MOST_POINTS; point++) {
+                near[point] &= bits;
+            }
+            return countFrom(net, join) > 0;
+        }
+
+        private void lookAt(Net net, int join) {
+            points = net.points;
+            net.copyNears(net.tones[join], near);
+        }
+
+        private int countFrom(Net net, int join) {
+            int low = LOW[join];
+            int high = HIGH[join];
+            int size = net.sizes[net.tones[join]];
+            switch (net.kinds[net.tones[join]]) {
+                case ALL:
+                    return countAllJoined(near[low] & near[high], size - 2);
+                case RING:
+                    return countBetween(low, high, size - 2, 1 << low | 1 << high);
+                case STAR:
+                    return countStars(low, size) + countStars(high, size);
+                case BOOK:
+                    return countBooks(low, high, size);
+                case PATH:
+                    return countPaths(low, high, size - 2);
+                default:
+                    return 0;
+            }
+        }
+
+        private int countAllJoined(int candidates, int missing) {
+            if (missing <= 1) {
+                return missing <= 0 ? 1 : Integer.bitCount(candidates);
+            }
+            int sum = 0;
+            for (int point = 0; point < points; point++) {
+                if ((candidates >> point & 1) == 1) {
+                    sum += countAllJoined(candidates & near[point] & above(point), missing - 1);
+                }
+            }
+            return sum;
+        }
+
+        /** Ways from one POINT to another one with so many between them. */
+        private int countBetween(int from, int goal, int between, int taken) {
+            int candidates = near[from] & ~taken;
+            if (between <= 1) {
+                return Integer.bitCount(candidates & near[goal]);
+            }
+            int sum = 0;
+            for (int point = 0; point < points; point++) {
+                if ((candidates >> point & 1) == 1) {
+                    sum += countBetween(point, goal, between - 1, taken | 1 << point);
+                }
+            }
+            return sum;
+        }
+
+        private int countStars(int middle, int size) {
+            return choose(Integer.bitCount(near[middle]) - 1, size - 1);
+        }
+
+        /** The JOIN is that of the two, or that of one of the two and one of the others. */
+        private int countBooks(int low, int high, int size) {
+            int thirds = near[low] & near[high];
+            int sum = choose(Integer.bitCount(thirds), size);
+            for (int third = 0; third < points; third++) {
+                if ((thirds >> third & 1) == 1) {
+                    sum += choose(Integer.bitCount(near[low] & near[third]) - 1, size - 1);
+                    sum += choose(Integer.bitCount(near[high] & near[third]) - 1, size - 1);
+                }
+            }
+            return sum;
+        }
+
+        private int countPaths(int low, int high, int missing) {
+            int sum = 0;
+            for (int beyondLow = 0; beyondLow <= missing; beyondLow++) {
+                sum += countArms(low, beyondLow, high, missing - beyondLow, 1 << low | 1 << high);
+            }
+            return sum;
+        }
+
+        /** Ways to lengthen a path by so many POINTS at its one end, then by so many at its other end. */
+        private int countArms(int end, int missing, int otherEnd, int missingThere, int taken) {
+            if (missing <= 0) {
+                return missingThere <= 0 ? 1 : countArms(otherEnd, missingThere, end, 0, taken);
+            }
+            int candidates = near[end] & ~taken;
+            if (missing == 1 && missingThere <= 0) {
+                return Integer.bitCount(candidates);
+            }
+            int sum = 0;
+            for (int point = 0; point < points; point++) {
+                if ((candidates >> point & 1) == 1) {
+                    sum += countArms(point, missing - 1, otherEnd, missingThere, taken | 1 << point);
+                }
+            }
+            return sum;
+        }
+    }
+
     /** The TRIES of a FILLING on a board of its own. */
     private static final class Filling {
         final Net board = new Net();
-        final Finder finder;
         int done;
-        int openCount;
+        private final Finder finder;
+        private final Outward outward;
         private final int[] open = new int[MOST_JOINS];
+        private int openCount;
         private int depth;
         private boolean over;
 
-        Filling(Finder finder) {
+        Filling(Finder finder, Outward outward) {
             this.finder = finder;
+            this.outward = outward;
         }
 
         void begin(Net from) {
@@ -732,8 +855,9 @@ public final class KeptColours {
             over = finder.hasAny(board);
         }
 
-        boolean isLost() {
-            return over;
+        /** Whether it ends ahead of the first TRY: with a COPY, or with no JOIN to be tried. */
+        boolean isOver() {
+            return over || openCount == 0;
         }
 
         int join() {
@@ -788,7 +912,7 @@ public final class KeptColours {
                     return TOO_MANY;
                 }
                 done++;
-                if (!finder.findFirst(board, tone()) && !goDeeper()) {
+                if (outward.howMany(board, join()) == 0 && !goDeeper()) {
                     return FOUND;
                 }
             }
@@ -823,20 +947,16 @@ public final class KeptColours {
     private static final class Forms {
         final int[] best = new int[MOST_FORM_JOINS];
         int ways;
+        private int points;
+        private final int[] tones = new int[MOST_FORM_JOINS];
         private final int[] pointOf = new int[MOST_FORM_POINTS];
-        private Net net;
         /** The JOINS to numbers above this one are not settled in the best. */
         private int settled;
         private boolean stopsAtLess;
         private boolean isLess;
 
-        void seek(Net in) {
-            begin(in, false);
-        }
-
-        private boolean isFirst(Net in) {
-            begin(in, true);
-            return !isLess;
+        void seek(Net net) {
+            begin(net, false);
         }
 
         /** One COLOURING of all that are ALIKE is the first of them, so these are as many as FORMS. */
@@ -846,32 +966,32 @@ public final class KeptColours {
                 if (filling.goOn(ALL_TRIES) != FOUND) {
                     return sum;
                 }
-                if (isFirst(filling.board)) {
-                    sum++;
-                }
+                begin(filling.board, true);
+                sum += isLess ? 0 : 1;
             }
             return sum;
         }
 
-        private void begin(Net in, boolean stopping) {
-            net = in;
+        private void begin(Net net, boolean stopping) {
             stopsAtLess = stopping;
             isLess = false;
             ways = 0;
-            if (in.points > MOST_FORM_POINTS) {
+            if (net.points > MOST_FORM_POINTS) {
                 return;
             }
-            settled = in.points - 1;
-            System.arraycopy(in.tones, 0, best, 0, in.joinCount());
+            points = net.points;
+            settled = points - 1;
+            System.arraycopy(net.tones, 0, tones, 0, net.joinCount());
+            System.arraycopy(net.tones, 0, best, 0, net.joinCount());
             giveNumber(0, 0);
         }
 
         private void giveNumber(int number, int used) {
-            if (number >= net.points) {
+            if (number >= points) {
                 ways++;
                 return;
             }
-            for (int point = 0; point < net.points; point++) {
+            for (int point = 0; point < points; point++) {
                 if ((used >> point & 1) == 0) {
                     pointOf[number] = point;
                     int order = compareJoinsTo(number);
@@ -911,7 +1031,7 @@ public final class KeptColours {
         }
 
         private int toneOf(int number, int otherNumber) {
-            return net.tones[numberOf(pointOf[number], pointOf[otherNumber])];
+            return tones[numberOf(pointOf[number], pointOf[otherNumber])];
         }
     }
 
@@ -921,6 +1041,13 @@ public final class KeptColours {
         final int[] tones = new int[MOST_ROWS];
         final int[] bits = new int[MOST_ROWS];
         int size;
+        private final Finder finder;
+        private final Outward outward;
+
+        Proof(Finder finder, Outward outward) {
+            this.finder = finder;
+            this.outward = outward;
+        }
 
         void forget() {
             size = 0;
@@ -930,11 +1057,7 @@ public final class KeptColours {
          * Writes over the rows that there are: while a PROOF stands, nothing has changed since it was
          * made, so that it is made again and not refused.
          */
-        int make(Filling filling, Net from) {
-            filling.begin(from);
-            if (filling.isLost() || filling.openCount == 0) {
-                return NO;
-            }
+        int make(Filling filling) {
             for (int i = 0; i <= MOST_ROWS; i++) {
                 if (!filling.nextTry()) {
                     size = i;
@@ -943,10 +1066,10 @@ public final class KeptColours {
                 if (i == MOST_ROWS) {
                     return FULL;
                 }
-                boolean clashes = filling.finder.findFirst(filling.board, filling.tone());
+                boolean clashes = finder.findFirst(filling.board, filling.tone());
                 joins[i] = filling.join();
                 tones[i] = filling.tone();
-                bits[i] = clashes ? filling.finder.rowBits() : 0;
+                bits[i] = clashes ? finder.rowBits() : 0;
                 if (!clashes && !filling.goDeeper()) {
                     return NO;
                 }
@@ -954,8 +1077,7 @@ public final class KeptColours {
             return FULL;
         }
 
-        int firstFault(Filling filling, Net from) {
-            filling.begin(from);
+        int firstFault(Filling filling) {
             for (int i = 0; i < size; i++) {
                 if (!filling.nextTry() || !isAsTold(i, filling)) {
                     return 1 + i;
@@ -971,20 +1093,19 @@ public final class KeptColours {
             if (bits[i] == 0) {
                 return filling.goDeeper();
             }
-            return filling.finder.isCopyWith(filling.board, joins[i], bits[i]);
+            return outward.isCopyOfJust(filling.board, joins[i], bits[i]);
         }
     }
 
     /** Does STEPS. */
     private static final class Walker {
-        private final Finder finder;
-        private final int[] copiesOf = new int[MOST_COLOURS];
+        private final Outward outward;
         private int bestJoin;
         private int bestTone;
         private int bestGain;
 
-        Walker(Finder finder) {
-            this.finder = finder;
+        Walker(Outward outward) {
+            this.outward = outward;
         }
 
         int walk(Net net, int most) {
@@ -998,34 +1119,22 @@ public final class KeptColours {
             return most;
         }
 
+        /** Only COPIES in which the JOIN is come or go when it gets another COLOUR. */
         private void seekBest(Net net) {
             bestGain = 0;
-            for (int colour = 0; colour < net.colours; colour++) {
-                copiesOf[colour] = finder.howMany(net, colour);
-            }
             for (int join = 0; join < net.joinCount(); join++) {
                 int before = net.tones[join];
-                if (before != BARE) {
-                    seekBestAt(net, join, before);
-                    net.give(join, before);
-                }
-            }
-        }
-
-        /** A JOIN that gets another COLOUR changes the COPIES of these two COLOURS only. */
-        private void seekBestAt(Net net, int join, int before) {
-            net.give(join, BARE);
-            int lost = copiesOf[before] - finder.howMany(net, before);
-            for (int colour = 0; colour < net.colours; colour++) {
-                if (colour != before) {
+                int copiesBefore = outward.howMany(net, join);
+                for (int colour = 0; colour < net.colours; colour++) {
                     net.give(join, colour);
-                    int gain = lost - (finder.howMany(net, colour) - copiesOf[colour]);
+                    int gain = copiesBefore - outward.howMany(net, join);
                     if (gain > bestGain) {
                         bestJoin = join;
                         bestTone = colour;
                         bestGain = gain;
                     }
                 }
+                net.give(join, before);
             }
         }
     }
