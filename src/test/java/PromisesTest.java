@@ -479,6 +479,10 @@ public final class PromisesTest {
         dueLists("no star of 2", joined(3, STAR, 2), new int[] {1, 2, 4, 10, 26, 76}, new int[] {1, 2, 2, 3, 3, 4});
         dueLists("no path of 3", joined(3, PATH, 3), new int[] {1, 2, 4, 10, 26, 76}, new int[] {1, 2, 2, 3, 3, 4});
         dueLists("no JOIN", joined(3, ALL, 2), new int[] {1, 1, 1, 1, 1, 1}, new int[] {1, 1, 1, 1, 1, 1});
+        dueLists("no 4 all joined", joined(3, ALL, 4), new int[] {1, 2, 8, 63, 1024 - 66}, new int[] {1, 2, 4, 10, 34 - 5});
+        dueLists("no book of 2", joined(3, BOOK, 2), new int[] {1, 2, 8, 64 - 7}, new int[] {1, 2, 4, 11 - 2});
+        dueLists("no star of 3", joined(3, STAR, 3), new int[] {1, 2, 8, 64 - 23}, new int[] {1, 2, 4, 11 - 4});
+        dueLists("no path of 4", joined(3, PATH, 4), new int[] {1, 2, 8, 64 - 34}, new int[] {1, 2, 4, 11 - 5});
         KeptColours x = joined(3, RING, 4);
         x.paint(0, 1, 1);
         int[] noSquare = {1, 2, 4, 8, 18, 44};
@@ -518,6 +522,7 @@ public final class PromisesTest {
         keeps(x, "listed(4, -1)", BAD, () -> x.listed(4, -1));
         keeps(x, "listed(7, -1)", BAD, () -> x.listed(7, -1));
         keeps(x, "listed(7, 0)", LARGE, () -> x.listed(7, 0));
+        keeps(x, "listed(12, 0)", LARGE, () -> x.listed(12, 0));
         keeps(x, "listed(0, 0)", BAD, () -> x.listed(0, 0));
         keeps(x, "listed(13, 0)", BAD, () -> x.listed(13, 0));
         changes(x, "listed(1, 0)", 0, () -> x.listed(1, 0));
@@ -659,6 +664,10 @@ public final class PromisesTest {
         keeps(x, "drop() of the last one", NO, x::drop);
         due("put(0) behind it", x.put(0), 2);
         dueColours("put(0)", x, "0");
+        KeptColours twelve = bench(12, 2);
+        twelve.turned(63);
+        changes(twelve, "drop() of 12", 11, twelve::drop);
+        due("count(2)", twelve.count(2), 0);
         KeptColours y = joined(4, STAR, 3, 0, 1, 0, 2, 0, 3);
         due("copies(0)", y.copies(0), 1);
         due("drop()", y.drop(), 3);
