@@ -1,5 +1,3 @@
-import java.lang.reflect.Method;
-import java.lang.reflect.Modifier;
 import java.util.ArrayList;
 import java.util.List;
 import java.util.Random;
@@ -91,13 +89,9 @@ public final class AgainstPlainTest {
 
     private boolean callBoth(String name) {
         int[] values = drawValues(name);
-        int got = call(x, name, values);
-        int due = call(plain, name, values);
-        StringBuilder told = new StringBuilder("  " + name);
-        for (int value : values) {
-            told.append(' ').append(value);
-        }
-        calls.add(told + " answered " + got + (got == due ? "" : ", due is " + due));
+        int got = Called.named(x, name, values);
+        int due = Called.named(plain, name, values);
+        calls.add("  " + Called.text(name, values) + " answered " + got + (got == due ? "" : ", due is " + due));
         return got == due && sameState();
     }
 
@@ -193,27 +187,5 @@ public final class AgainstPlainTest {
             bits |= 1 << random.nextInt(n);
         }
         return new int[] {i, bits};
-    }
-
-    /** Both are called by the name, so that no call can be mistaken for another one. */
-    private static int call(Object on, String name, int... values) {
-        try {
-            Object[] given = new Object[values.length];
-            for (int i = 0; i < given.length; i++) {
-                given[i] = values[i];
-            }
-            return (Integer) methodOf(on.getClass(), name).invoke(on, given);
-        } catch (ReflectiveOperationException e) {
-            throw new IllegalStateException(name, e);
-        }
-    }
-
-    private static Method methodOf(Class<?> type, String name) {
-        for (Method method : type.getDeclaredMethods()) {
-            if (method.getName().equals(name) && !Modifier.isPrivate(method.getModifiers())) {
-                return method;
-            }
-        }
-        throw new IllegalStateException(name);
     }
 }

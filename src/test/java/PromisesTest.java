@@ -1,18 +1,8 @@
-import java.util.function.IntSupplier;
-
 /**
  * The document's promises, one method each, with answers worked out by hand or known from elsewhere
  * (how many graphs there are, Ramsey's and Goodman's numbers): ordinary calls, edges and wrong ones.
  */
-public final class PromisesTest {
-    private static final int BAD = -1000000001, NO = -1000000002, FULL = -1000000003, LARGE = -1000000004, SPENT = -1000000006, NONE = -1000000005;
-    private static final int ALL = 1, RING = 2, STAR = 3, BOOK = 4, PATH = 5;
-    private static final int MIN = Integer.MIN_VALUE, MAX = Integer.MAX_VALUE;
-
-    private static int promise;
-    private static int asked;
-    private static int wrong;
-
+public final class PromisesTest extends Asked {
     public static void main(String[] args) {
         Runnable[] promises = {
             PromisesTest::newObject, PromisesTest::net, PromisesTest::target, PromisesTest::paint, PromisesTest::colour,
@@ -22,150 +12,21 @@ public final class PromisesTest {
             PromisesTest::put, PromisesTest::drop, PromisesTest::fill, PromisesTest::tries, PromisesTest::prove,
             PromisesTest::row, PromisesTest::forge, PromisesTest::check, PromisesTest::step, PromisesTest::undo,
             PromisesTest::count};
-        for (Runnable each : promises) {
-            promise++;
-            int before = asked;
-            each.run();
-            if (asked == before) {
-                wrong++;
-                System.out.println("promise " + promise + " was not asked for");
+        for (int i = 0; i < promises.length; i++) {
+            at("promise " + (i + 1));
+            int before = askedSoFar();
+            promises[i].run();
+            if (askedSoFar() == before) {
+                fault("it was not asked for");
             }
         }
-        System.out.println(wrong == 0 ? asked + " answers on " + promise + " promises are as due" : wrong + " are not as due");
-        if (wrong != 0) {
-            System.exit(1);
-        }
+        endWith(promises.length + " promises");
     }
 
-    // ---- how answers are held against what is due
+    // ---- benches
 
-    private static void due(String call, int got, int want) {
-        asked++;
-        if (got != want) {
-            wrong++;
-            System.out.println("promise " + promise + ": " + call + " answered " + got + ", due is " + want);
-        }
-    }
-
-    /** A call that must leave all as it was, be it refused or only asked. */
-    private static void keeps(KeptColours x, String call, int want, IntSupplier asking) {
-        String before = stateOf(x);
-        due(call, asking.getAsInt(), want);
-        if (!before.equals(stateOf(x))) {
-            wrong++;
-            System.out.println("promise " + promise + ": " + call + " changed " + before + " to " + stateOf(x));
-        }
-    }
-
-    /** A CHANGE, which must be kept, end the PROOF, and be taken back whole. */
-    private static void changes(KeptColours x, String call, int want, IntSupplier asking) {
-        String before = netOf(x);
-        int kept = x.count(4);
-        due(call, asking.getAsInt(), want);
-        String after = netOf(x);
-        due(call + " then count(4)", x.count(4), Math.min(6, kept + 1));
-        due(call + " then count(5)", x.count(5), 0);
-        due(call + " then undo()", x.undo(), Math.min(5, kept));
-        due(call + " taken back", before.equals(netOf(x)) ? 1 : 0, 1);
-        due(call + " once more", asking.getAsInt(), want);
-        due(call + " done the same", after.equals(netOf(x)) ? 1 : 0, 1);
-    }
-
-    private static String netOf(KeptColours x) {
-        StringBuilder told = new StringBuilder(x.count(0) + "/" + x.count(1) + " ");
-        for (int c = 0; c < 3; c++) {
-            told.append(x.aim(c, 0)).append(':').append(x.aim(c, 1)).append(' ');
-        }
-        return told + coloursOf(x);
-    }
-
-    private static String coloursOf(KeptColours x) {
-        StringBuilder told = new StringBuilder();
-        for (int j = 1; j < x.count(0); j++) {
-            for (int i = 0; i < j; i++) {
-                int c = x.colour(i, j);
-                told.append(c == -1 ? "-" : String.valueOf(c));
-            }
-        }
-        return told.toString();
-    }
-
-    private static String stateOf(KeptColours x) {
-        StringBuilder told = new StringBuilder(netOf(x) + " kept " + x.count(4) + " tries " + x.tries() + " rows ");
-        for (int i = 0; i < x.count(5); i++) {
-            told.append(x.row(i, 0)).append('.').append(x.row(i, 1)).append('.').append(x.row(i, 2)).append(' ');
-        }
-        return told.toString();
-    }
-
-    private static void dueColours(String when, KeptColours x, String want) {
-        asked++;
-        if (!coloursOf(x).equals(want)) {
-            wrong++;
-            System.out.println("promise " + promise + ": " + when + " it is " + coloursOf(x) + ", due is " + want);
-        }
-    }
-
-    private static void dueCopy(String when, KeptColours x, int colour, int... want) {
-        for (int i = 0; i < want.length; i++) {
-            due(when + ": copy(" + colour + ", " + i + ")", x.copy(colour, i), want[i]);
-        }
-        due(when + ": copy behind its end", x.copy(colour, want.length), NONE);
-    }
-
-    // ---- nets that several need
-
-    private static KeptColours bench(int n, int colours) {
-        KeptColours x = new KeptColours();
-        x.net(n, colours);
-        return x;
-    }
-
-    /** COLOURS by the JOINS' numbers, '-' for BARE. */
-    private static KeptColours bench(int n, int colours, String tones) {
-        KeptColours x = bench(n, colours);
-        for (int j = 1, k = 0; j < n; j++) {
-            for (int i = 0; i < j; i++, k++) {
-                if (tones.charAt(k) != '-') {
-                    x.paint(i, j, tones.charAt(k) - '0');
-                }
-            }
-        }
-        return x;
-    }
-
-    /** All JOINS in COLOUR 0, and a TARGET for it. */
-    private static KeptColours full(int n, int kind, int size) {
-        KeptColours x = bench(n, 2);
-        x.turned(0);
-        x.target(0, kind, size);
-        return x;
-    }
-
-    private static KeptColours noTriangles(int n, int colours) {
-        KeptColours x = bench(n, colours);
-        for (int c = 0; c < colours; c++) {
-            x.target(c, ALL, 3);
-        }
-        return x;
-    }
-
-    private static KeptColours joined(int n, int kind, int size, int... ends) {
-        KeptColours x = bench(n, 2);
-        x.target(0, kind, size);
-        for (int k = 0; k + 1 < ends.length; k += 2) {
-            x.paint(ends[k], ends[k + 1], 0);
-        }
-        return x;
-    }
-
-    /** 4 POINTS, no path of 3 in either COLOUR: 10 TRIES. */
     private static KeptColours proved() {
-        KeptColours x = bench(4, 2);
-        x.target(0, PATH, 3);
-        x.target(1, PATH, 3);
-        x.prove();
-        return x;
+        return Called.bench(PROVED);
     }
 
     /** Paths of 4 are kept off, and all JOINS of COLOUR 1: JOIN 1 is amid the path 1, 0, 2, 3. */
@@ -175,14 +36,6 @@ public final class PromisesTest {
         x.target(1, ALL, 2);
         due("prove()", x.prove(), 2);
         return x;
-    }
-
-    private static int falling(int n, int m) {
-        return m == 0 ? 1 : n * falling(n - 1, m - 1);
-    }
-
-    private static int choose(int n, int m) {
-        return falling(n, m) / falling(m, m);
     }
 
     // ---- the promises
@@ -445,7 +298,7 @@ public final class PromisesTest {
     }
 
     private static void turns() {
-        KeptColours x = noTriangles(5, 2);
+        KeptColours x = Called.bench(noTriangles(5, 2));
         x.paint(0, 1, 1);
         keeps(x, "turns(0)", 2, () -> x.turns(0));
         keeps(x, "turns(1)", 1, () -> x.turns(1));
@@ -566,19 +419,6 @@ public final class PromisesTest {
         due("form(0) of one POINT", bench(1, 2).form(0), BAD);
     }
 
-    private static void dueForm(String of, KeptColours x, String want) {
-        StringBuilder got = new StringBuilder();
-        for (int k = 0; k < want.length(); k++) {
-            int c = x.form(k);
-            got.append(c == -1 ? "-" : String.valueOf(c));
-        }
-        asked++;
-        if (!got.toString().equals(want)) {
-            wrong++;
-            System.out.println("promise " + promise + ": THE FORM of " + of + " is told as " + got + ", due is " + want);
-        }
-    }
-
     private static void same() {
         int[] factorial = {1, 2, 6, 24, 120, 720, 5040};
         for (int n = 1; n <= 7; n++) {
@@ -610,7 +450,7 @@ public final class PromisesTest {
         keeps(x, "puts() on 11 in 3 COLOURS, BARE", LARGE, x::puts);
         x.net(12, 3);
         keeps(x, "puts() on 12", FULL, x::puts);
-        KeptColours y = noTriangles(2, 2);
+        KeptColours y = Called.bench(noTriangles(2, 2));
         y.turned(0);
         due("puts() on a JOIN", y.puts(), 3);
         y.net(3, 2);
@@ -638,7 +478,7 @@ public final class PromisesTest {
         keeps(x, "put(-1) on 11 in 3 COLOURS", LARGE, () -> x.put(-1));
         x.net(12, 3);
         keeps(x, "put(-1) on 12", FULL, () -> x.put(-1));
-        KeptColours y = noTriangles(2, 2);
+        KeptColours y = Called.bench(noTriangles(2, 2));
         y.turned(0);
         due("put(2) on a JOIN", y.put(2), 3);
         dueColours("put(2)", y, "0" + "11");
@@ -690,7 +530,7 @@ public final class PromisesTest {
         y.target(1, STAR, 2);
         due("fill(20)", y.fill(20), 1);
         dueColours("fill(20), what had COLOURS stays", y, "010000");
-        KeptColours z = noTriangles(6, 2);
+        KeptColours z = Called.bench(noTriangles(6, 2));
         keeps(z, "fill(649)", SPENT, () -> z.fill(649));
         int kept = z.count(4);
         due("fill(650)", z.fill(650), 0);
@@ -703,7 +543,7 @@ public final class PromisesTest {
         due("count(4)", w.count(4), kept);
         KeptColours full = full(3, ALL, 3);
         due("fill(9), WHOLE but not CLEAR", full.fill(9), 0);
-        KeptColours v = noTriangles(3, 3);
+        KeptColours v = Called.bench(noTriangles(3, 3));
         due("fill(9) in 3 COLOURS", v.fill(9), 1);
         KeptColours one = bench(1, 2);
         changes(one, "fill(1) of one POINT", 1, () -> one.fill(1));
@@ -744,7 +584,7 @@ public final class PromisesTest {
         x.forge(0, 5);
         due("prove() once more", x.prove(), 2);
         due("row(0, 2) anew", x.row(0, 2), 3);
-        KeptColours y = noTriangles(5, 2);
+        KeptColours y = Called.bench(noTriangles(5, 2));
         keeps(y, "prove() of what can be filled", NO, y::prove);
         y.turned(1);
         keeps(y, "prove() of what is full", NO, y::prove);
