@@ -235,12 +235,9 @@ public final class KeptColours {
             return LARGE;
         }
         filling.beginList(now, n);
-        if (!filling.reach(k)) {
-            return NONE;
-        }
-        remember();
-        now.become(filling.board);
-        return now.joinCount();
+        boolean isThere = filling.reach(k);
+        changeTo(isThere ? filling.board : now);
+        return isThere ? now.joinCount() : NONE;
     }
 
     public int form(int k) {
@@ -280,12 +277,9 @@ public final class KeptColours {
             return BAD;
         }
         filling.beginPut(now);
-        if (!filling.reach(k)) {
-            return NONE;
-        }
-        remember();
-        now.become(filling.board);
-        return now.points;
+        boolean isThere = filling.reach(k);
+        changeTo(isThere ? filling.board : now);
+        return isThere ? now.points : NONE;
     }
 
     public int drop() {
@@ -312,8 +306,7 @@ public final class KeptColours {
         if (end == ENDED) {
             return 0;
         }
-        remember();
-        now.become(filling.board);
+        changeTo(filling.board);
         return 1;
     }
 
@@ -399,10 +392,19 @@ public final class KeptColours {
 
     // ---- what several calls share
 
-    /** To be called ahead of each CHANGE that is sure to be done. */
+    /** To be called ahead of each CHANGE, once it is sure not to be refused. */
     private void remember() {
         history.keep(now);
         proof.forget();
+    }
+
+    /**
+     * NONE is not among the answers of calls that are refused, so that listed and put do a CHANGE with
+     * it too: to what stands already.
+     */
+    private void changeTo(Net other) {
+        remember();
+        now.become(other);
     }
 
     private boolean isListLarge(int n) {

@@ -126,6 +126,18 @@ abstract class Asked {
         changes(x, call, want, () -> Called.call(x, call));
     }
 
+    /** A CHANGE with which NET, TARGETS and COLOURING are then what they were. */
+    static void changesToSame(KeptColours x, String call, int want, IntSupplier asking) {
+        String before = netOf(x);
+        changes(x, call, want, asking);
+        dueText("NET, TARGETS and COLOURING behind " + call, netOf(x), before);
+    }
+
+    static void changesToSame(String calls, String call, int want) {
+        KeptColours x = Called.bench(calls);
+        changesToSame(x, call, want, () -> Called.call(x, call));
+    }
+
     // ---- what can be seen of a bench
 
     static String netOf(KeptColours x) {

@@ -373,6 +373,7 @@ final class PlainColours {
         }
         List<State> all = wholeList(n);
         if (k >= all.size()) {
+            change(s);
             return NONE;
         }
         change(all.get(k));
@@ -483,6 +484,7 @@ final class PlainColours {
         }
         List<State> all = allPuts();
         if (k >= all.size()) {
+            change(s);
             return NONE;
         }
         change(all.get(k));

@@ -438,14 +438,14 @@ public final class PromiseEdgesTest extends Sentences {
             keeps("net(2, 3)", "listed(6, 0)", LARGE);
         });
         sentence("NONE: there are not so many.", () -> {
-            keeps(BUSY, "listed(1, 1)", NONE);
-            keeps(BUSY, "listed(4, 0)", NONE);
-            keeps(BUSY, "listed(2, 2)", NONE);
-            keeps(BUSY, "listed(2, MAX)", NONE);
-            keeps(noTriangles(9, 2), "listed(5, 12)", NONE);
-            keeps("net(1, 2)", "listed(6, 32768)", NONE);
-            keeps("net(1, 3)", "listed(5, 59049)", NONE);
-            keeps("net(1, 3)", "listed(5, 60000)", NONE);
+            changesToSame(BUSY, "listed(1, 1)", NONE);
+            changesToSame(BUSY, "listed(4, 0)", NONE);
+            changesToSame(BUSY, "listed(2, 2)", NONE);
+            changesToSame(BUSY, "listed(2, MAX)", NONE);
+            changesToSame(noTriangles(9, 2), "listed(5, 12)", NONE);
+            changesToSame("net(1, 2)", "listed(6, 32768)", NONE);
+            changesToSame("net(1, 3)", "listed(5, 59049)", NONE);
+            changesToSame("net(1, 3)", "listed(5, 60000)", NONE);
         });
     }
 
@@ -556,13 +556,13 @@ public final class PromiseEdgesTest extends Sentences {
             allBad(noTriangles(5, 2) + "; turned(1)", "put(-1)");
         });
         sentence("NONE: there are not so many.", () -> {
-            keeps("net(1, 2)", "put(2)", NONE);
-            keeps("net(1, 2)", "put(MAX)", NONE);
-            keeps("net(11, 2); turned(0)", "put(2048)", NONE);
-            keeps("net(10, 3); turned(0)", "put(59049)", NONE);
-            keeps("net(10, 3); turned(0)", "put(60000)", NONE);
-            keeps(noTriangles(5, 2) + "; turned(1)", "put(0)", NONE);
-            keeps("net(1, 2); target(0, 1, 2); target(1, 5, 2)", "put(0)", NONE);
+            changesToSame("net(1, 2)", "put(2)", NONE);
+            changesToSame("net(1, 2)", "put(MAX)", NONE);
+            changesToSame("net(11, 2); turned(0)", "put(2048)", NONE);
+            changesToSame("net(10, 3); turned(0)", "put(59049)", NONE);
+            changesToSame("net(10, 3); turned(0)", "put(60000)", NONE);
+            changesToSame(noTriangles(5, 2) + "; turned(1)", "put(0)", NONE);
+            changesToSame("net(1, 2); target(0, 1, 2); target(1, 5, 2)", "put(0)", NONE);
         });
     }
 

@@ -370,8 +370,8 @@ public final class PromisesTest extends Asked {
         dueColours("listed(3, 1)", x, "001");
         changes(x, "listed(4, 45)", 6, () -> x.listed(4, 45));
         dueColours("listed(4, 45)", x, "101101");
-        keeps(x, "listed(4, 64)", NONE, () -> x.listed(4, 64));
-        keeps(x, "listed(4, MAX)", NONE, () -> x.listed(4, MAX));
+        changesToSame(x, "listed(4, 64)", NONE, () -> x.listed(4, 64));
+        changesToSame(x, "listed(4, MAX)", NONE, () -> x.listed(4, MAX));
         keeps(x, "listed(4, -1)", BAD, () -> x.listed(4, -1));
         keeps(x, "listed(7, -1)", BAD, () -> x.listed(7, -1));
         keeps(x, "listed(7, 0)", LARGE, () -> x.listed(7, 0));
@@ -380,7 +380,7 @@ public final class PromisesTest extends Asked {
         keeps(x, "listed(13, 0)", BAD, () -> x.listed(13, 0));
         changes(x, "listed(1, 0)", 0, () -> x.listed(1, 0));
         due("count(0)", x.count(0), 1);
-        keeps(x, "listed(1, 1)", NONE, () -> x.listed(1, 1));
+        changesToSame(x, "listed(1, 1)", NONE, () -> x.listed(1, 1));
         due("listed(6, 32767)", x.listed(6, 32767), 15);
         dueColours("listed(6, 32767)", x, "111111111111111");
         x.target(0, ALL, 3);
@@ -388,14 +388,15 @@ public final class PromisesTest extends Asked {
         dueColours("no triangle: listed(3, 0)", x, "001");
         due("listed(3, 6)", x.listed(3, 6), 3);
         dueColours("no triangle: listed(3, 6)", x, "111");
-        keeps(x, "listed(3, 7)", NONE, () -> x.listed(3, 7));
+        changesToSame(x, "listed(3, 7)", NONE, () -> x.listed(3, 7));
         KeptColours y = bench(2, 3);
         due("listed(5, 59048)", y.listed(5, 59048), 10);
         dueColours("listed(5, 59048)", y, "2222222222");
         keeps(y, "listed(6, 0)", LARGE, () -> y.listed(6, 0));
         KeptColours z = proved();
-        keeps(z, "listed(4, 0) of none, with a PROOF", NONE, () -> z.listed(4, 0));
-        changes(z, "listed(2, 0), with a PROOF", 1, () -> z.listed(2, 0));
+        changesToSame(z, "listed(4, 0) of none, with a PROOF", NONE, () -> z.listed(4, 0));
+        KeptColours w = proved();
+        changes(w, "listed(2, 0), with a PROOF", 1, () -> w.listed(2, 0));
     }
 
     private static void form() {
@@ -468,8 +469,8 @@ public final class PromisesTest extends Asked {
         dueColours("put(1)", x, "101" + "001");
         changes(x, "put(12)", 5, () -> x.put(12));
         dueColours("put(12)", x, "101" + "001" + "1100");
-        keeps(x, "put(32)", NONE, () -> x.put(32));
-        keeps(x, "put(MAX)", NONE, () -> x.put(MAX));
+        changesToSame(x, "put(32)", NONE, () -> x.put(32));
+        changesToSame(x, "put(MAX)", NONE, () -> x.put(MAX));
         keeps(x, "put(-1)", BAD, () -> x.put(-1));
         keeps(x, "put(MIN)", BAD, () -> x.put(MIN));
         x.paint(0, 1, -1);

@@ -76,8 +76,8 @@ public final class TermEdgesTest extends Sentences {
         sentence("NONE: there is none.", () -> {
             keeps("", "copy(0, 0)", NONE);
             keeps(noTriangles(6, 2), "turns(1)", NONE);
-            keeps(noTriangles(6, 2), "listed(6, 0)", NONE);
-            keeps(noTriangles(5, 2) + "; turned(1)", "put(0)", NONE);
+            changesToSame(noTriangles(6, 2), "listed(6, 0)", NONE);
+            changesToSame(noTriangles(5, 2) + "; turned(1)", "put(0)", NONE);
             keeps("", "copy(0, -1)", BAD);
             keeps(noTriangles(6, 2), "turns(3)", BAD);
             keeps(noTriangles(6, 2), "listed(6, -1)", BAD);
@@ -516,11 +516,11 @@ public final class TermEdgesTest extends Sentences {
                 due(x, "listed(3, " + k + ")", 3);
                 dueColours("listed(3, " + k + ")", x, all[k]);
             }
-            keeps(calls, "listed(3, 7)", NONE);
+            changesToSame(calls, "listed(3, 7)", NONE);
             keeps(calls, "listed(3, -1)", BAD);
             String none = "net(3, 2); target(0, 1, 2); target(1, 1, 2)";
             keeps(none, "list(2, 0)", 0);
-            keeps(none, "listed(2, 0)", NONE);
+            changesToSame(none, "listed(2, 0)", NONE);
             keeps(none, "list(1, 0)", 1);
         });
         sentence("(LARGE, if C^(n * (n - 1) / 2) is above 60000.)", () -> {
@@ -528,8 +528,8 @@ public final class TermEdgesTest extends Sentences {
             due(bench(1, 3), "list(5, 0)", 59049);
             due(bench(1, 2), "listed(6, 32767)", 15);
             due(bench(1, 3), "listed(5, 59048)", 10);
-            keeps("net(1, 2)", "listed(6, 32768)", NONE);
-            keeps("net(1, 3)", "listed(5, 59049)", NONE);
+            changesToSame("net(1, 2)", "listed(6, 32768)", NONE);
+            changesToSame("net(1, 3)", "listed(5, 59049)", NONE);
             for (int n = 6; n <= 12; n++) {
                 keeps("net(1, 3)", "list(" + n + ", 0)", LARGE);
                 keeps("net(1, 3)", "listed(" + n + ", 0)", LARGE);
@@ -580,7 +580,7 @@ public final class TermEdgesTest extends Sentences {
                 due(x, "put(" + k + ")", 3);
                 dueColours("put(" + k + ")", x, onTwo[k]);
             }
-            keeps(calls, "put(3)", NONE);
+            changesToSame(calls, "put(3)", NONE);
             keeps(calls, "put(-1)", BAD);
             KeptColours three = Called.bench("net(2, 3); turned(2)");
             due(three, "put(5)", 3);
@@ -588,15 +588,15 @@ public final class TermEdgesTest extends Sentences {
             KeptColours one = bench(1, 3);
             due(one, "put(2)", 2);
             dueColours("put(2)", one, "2");
-            keeps("net(1, 3)", "put(3)", NONE);
+            changesToSame("net(1, 3)", "put(3)", NONE);
         });
         sentence("(LARGE, if C^n is above 60000).", () -> {
             due(Called.bench("net(10, 3); turned(0)"), "puts()", 59049);
             due(Called.bench("net(10, 3); turned(0)"), "put(59048)", 11);
-            keeps("net(10, 3); turned(0)", "put(59049)", NONE);
+            changesToSame("net(10, 3); turned(0)", "put(59049)", NONE);
             due(Called.bench("net(11, 2); turned(0)"), "puts()", 2048);
             due(Called.bench("net(11, 2); turned(0)"), "put(2047)", 12);
-            keeps("net(11, 2); turned(0)", "put(2048)", NONE);
+            changesToSame("net(11, 2); turned(0)", "put(2048)", NONE);
             keeps("net(11, 3); turned(0)", "puts()", LARGE);
             keeps("net(11, 3); turned(0)", "put(0)", LARGE);
         });
@@ -638,7 +638,7 @@ public final class TermEdgesTest extends Sentences {
                 due(filled, "fill(20000)", 1);
                 dueColours("fill(20000) with " + targets, filled, coloursOf(listed));
             }
-            keeps("net(2, 2); target(0, 1, 2); target(1, 1, 2)", "listed(2, 0)", NONE);
+            changesToSame("net(2, 2); target(0, 1, 2); target(1, 1, 2)", "listed(2, 0)", NONE);
             due(Called.bench("net(2, 2); target(0, 1, 2); target(1, 1, 2)"), "fill(2)", 0);
         });
     }
@@ -805,14 +805,21 @@ public final class TermEdgesTest extends Sentences {
             changes("", "fill(15)", 1);
             changes("turned(0); target(0, 1, 3)", "step(1)", 1);
             // They are CHANGES too where all is then as it was.
-            changes("", "net(6, 2)", 15);
-            changes("target(0, 1, 3)", "target(0, 1, 3)", 0);
-            changes("paint(0, 1, 0)", "paint(0, 1, 0)", 0);
-            changes("", "paint(0, 1, -1)", -1);
-            changes("turned(1)", "turned(1)", 0);
-            changes("listed(3, 2)", "listed(3, 2)", 3);
-            changes("turned(1)", "fill(1)", 1);
-            changes("turned(1)", "step(1)", 0);
+            changesToSame("", "net(6, 2)", 15);
+            changesToSame("target(0, 1, 3)", "target(0, 1, 3)", 0);
+            changesToSame("paint(0, 1, 0)", "paint(0, 1, 0)", 0);
+            changesToSame("", "paint(0, 1, -1)", -1);
+            changesToSame("turned(1)", "turned(1)", 0);
+            changesToSame("listed(3, 2)", "listed(3, 2)", 3);
+            changesToSame("turned(1)", "fill(1)", 1);
+            changesToSame("turned(1)", "step(1)", 0);
+            // NONE is not among the answers of calls that are refused.
+            changesToSame("paint(0, 1, 1)", "listed(2, 2)", NONE);
+            changesToSame("net(2, 2); turned(1)", "put(4)", NONE);
+            changesToSame(SIX_KEPT, "listed(1, 1)", NONE);
+            changesToSame(SIX_KEPT, "put(2)", NONE);
+            dueBehindSix("listed(1, 1)");
+            dueBehindSix("put(2)");
         });
         sentence("undo() takes back the latest one that is kept (NET, TARGETS, COLOURING);", () -> {
             keeps("", "undo()", NO);
@@ -827,6 +834,19 @@ public final class TermEdgesTest extends Sentences {
             dueText("NET, TARGETS, COLOURING", netOf(x), netOf(new KeptColours()));
             due(x, "undo()", NO);
         });
+    }
+
+    private static final String SIX_KEPT = "net(6, 2); net(5, 2); net(4, 2); net(3, 2); net(2, 2); net(1, 2)";
+
+    /** That call, as a CHANGE, is taken back first, and the oldest of six is kept no more. */
+    private static void dueBehindSix(String call) {
+        KeptColours x = Called.bench(SIX_KEPT + "; " + call);
+        int[] behind = {1, 2, 3, 4, 5, 6};
+        for (int k = 0; k < behind.length; k++) {
+            due(call + ", undo()", x.undo(), 5 - k);
+            due(call + ", undo(), count(0)", x.count(0), behind[k]);
+        }
+        due(call + ", undo()", x.undo(), NO);
     }
 
     /** Six CHANGES that were taken back, so that none is kept, with a PROOF. */
@@ -859,7 +879,7 @@ public final class TermEdgesTest extends Sentences {
         });
         sentence("A PROOF is none any more as one is done, or taken back.", () -> {
             for (String call : new String[] {
-                "net(4, 2)", "target(0, 5, 3)", "target(1, 0, 0)", "paint(0, 1, -1)", "paint(2, 3, 0)", "turned(0)", "listed(2, 1)", "drop()", "undo()"}) {
+                "net(4, 2)", "target(0, 5, 3)", "target(1, 0, 0)", "paint(0, 1, -1)", "paint(2, 3, 0)", "turned(0)", "listed(2, 1)", "listed(4, 0)", "drop()", "undo()"}) {
                 KeptColours x = Called.bench(PROVED);
                 due(x, "count(5)", 10);
                 Called.call(x, call);
@@ -881,7 +901,6 @@ public final class TermEdgesTest extends Sentences {
                 due(call + ", refused, then check()", x.check(), 0);
             }
             due(Called.bench(PROVED + "; fill(10)"), "check()", 0);
-            due(Called.bench(PROVED + "; listed(4, 0)"), "check()", 0);
         });
     }
 }
